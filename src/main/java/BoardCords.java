@@ -10,6 +10,7 @@ public final class BoardCords {
     private static final int MOST_LINES = 6;
     private static final int MOST_CORDS = 4;
     private static final int MOST_CALLS = 7;
+    private static final int ALL_CALLS = 127;
     private static final int MOST_LETTERS = 200;
     private static final int LAST_FALL = 40;
     private static final int LAST_MINUTE = 99;
@@ -190,7 +191,7 @@ public final class BoardCords {
         day.go(present, rule, n, told.cords);
         switch (what) {
             case 0: return Integer.bitCount(day.trial.those(DONE));
-            case 1: return day.trial.waitedInAll();
+            case 1: return day.trial.waitedOf(ALL_CALLS);
             default: return day.firstDone;
         }
     }
@@ -685,12 +686,13 @@ public final class BoardCords {
             return true;
         }
 
-        boolean canBePlugged(int c, int cords) {
-            if (how[c] != WAITS) {
-                return false;
-            }
-            int talkers = those(TALKS);
+        /** Whether there is a cord for the call and both its lines are free, if these talk. */
+        private boolean hasRoom(int c, int talkers, int cords) {
             return Integer.bitCount(talkers) < cords && linesFree(c, talkers);
+        }
+
+        boolean canBePlugged(int c, int cords) {
+            return how[c] == WAITS && hasRoom(c, those(TALKS), cords);
         }
 
         /** Whether somebody waits with both lines free and all cords taken. */
@@ -732,25 +734,19 @@ public final class BoardCords {
             letFall();
         }
 
-        int waitedInAll() {
-            return waitedOf((1 << MOST_CALLS) - 1);
-        }
-
         int waitedOf(int bits) {
-            int sum = 0;
-            for (int c = 0; c < told.calls; c++) {
-                if ((bits >> c & 1) == 1) {
-                    sum += waited[c];
-                }
-            }
-            return sum;
+            return sumOf(waited, bits);
         }
 
         private int leftOf(int bits) {
+            return sumOf(left, bits);
+        }
+
+        private int sumOf(int[] minutes, int bits) {
             int sum = 0;
             for (int c = 0; c < told.calls; c++) {
                 if ((bits >> c & 1) == 1) {
-                    sum += left[c];
+                    sum += minutes[c];
                 }
             }
             return sum;
@@ -762,15 +758,11 @@ public final class BoardCords {
             int best = talkers;
             for (int cut = 0; cut < talkers; cut++) {
                 boolean allTalk = (cut & talkers) == cut;
-                if (allTalk && opensFor(c, talkers & ~cut) && cutsLess(cut, best)) {
+                if (allTalk && hasRoom(c, talkers & ~cut, told.cords) && cutsLess(cut, best)) {
                     best = cut;
                 }
             }
             return best;
-        }
-
-        private boolean opensFor(int c, int talkers) {
-            return Integer.bitCount(talkers) < told.cords && linesFree(c, talkers);
         }
 
         private boolean cutsLess(int cut, int than) {

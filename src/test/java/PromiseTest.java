@@ -648,6 +648,12 @@ public final class PromiseTest {
         for (int k = 0; k < 4; k++) {
             due("15 two cords, " + k, two.bestRow(k), row[k]);
         }
+        BoardCords last = Boards.of("c0 0 1 7 0;c0 0 1 6 0;c0 0 1 5 0;c0 0 1 4 0;c0 0 1 3 0;"
+                + "c0 0 1 2 0;c0 0 1 1 0;");
+        due("15 the last of all rows", last.bestRow(-1), 1 + 3 + 6 + 10 + 15 + 21);
+        for (int k = 0; k < 7; k++) {
+            due("15 the last of all rows, " + k, last.bestRow(k), 6 - k);
+        }
         BoardCords slow = Boards.of("l2;c0 0 1 20 0;c0 0 1 20 0;c0 0 1 20 0;");
         due("15 thirty minutes, no more", slow.bestRow(-1), 20 + 30);
         pass(slow, 99);

@@ -30,6 +30,8 @@ public final class BoardCords {
     private static final int ROW_MINUTES = 30;
     private static final int NOT_SO_MANY = -5;
 
+    private static final int ABOVE_ALL_SUMS = 1000000;
+
     private static final int IMAGES = 2;
     private static final int ALL_OF_TEN = 10;
     private static final int ODDS_MINUTES = 40;
@@ -945,7 +947,7 @@ public final class BoardCords {
 
         void find(Moment start) {
             prepare(start);
-            least = Integer.MAX_VALUE;
+            least = ABOVE_ALL_SUMS;
             for (int tried = 0; tried < MOST_ROWS; tried++) {
                 int waits = waitsFor(least);
                 if (waits < least) {
@@ -1069,7 +1071,7 @@ public final class BoardCords {
             for (int l = 0; l < told.lines; l++) {
                 row[l] = l;
             }
-            least = Integer.MAX_VALUE;
+            least = ABOVE_ALL_SUMS;
             for (int tried = 0; tried < MOST_ROWS; tried++) {
                 int sum = inAll(row);
                 if (sum < least) {

@@ -174,16 +174,18 @@ public final class LanguageTest {
         com.sun.management.ThreadMXBean threads =
                 (com.sun.management.ThreadMXBean) ManagementFactory.getThreadMXBean();
         long self = Thread.currentThread().getId();
-        BoardCords x = new BoardCords();
         String text = "l6;x2;c0 0 1 3 1;c0 1 2 4 2;c0 2 3 5 3;c0 3 4 6 4;c0 4 5 7 5;c0 5 0 8 6;";
-        long sum = callAll(x, text);
-        long before = threads.getThreadAllocatedBytes(self);
+        // the first calls of all load what the machine needs
+        long sum = callAll(new BoardCords(), text);
+        long used = 0;
         for (int i = 0; i < 20; i++) {
+            BoardCords x = new BoardCords();
+            long ahead = threads.getThreadAllocatedBytes(self);
             sum += callAll(x, text);
+            used += threads.getThreadAllocatedBytes(self) - ahead;
         }
-        long used = threads.getThreadAllocatedBytes(self) - before;
         holds("calls make no objects: " + used + " bytes", used < 4096);
-        before = threads.getThreadAllocatedBytes(self);
+        long before = threads.getThreadAllocatedBytes(self);
         for (int i = 0; i < 100; i++) {
             sum += new BoardCords().count(0);
         }

@@ -1,23 +1,49 @@
 import java.util.Random;
 
-/** Long runs of chosen calls, the same ones each time: the program against the slow model. */
+/**
+ * Runs of chosen calls, the same ones each time: the program against the slow model. No object is
+ * asked more than 512 times, as nothing is promised of it behind that.
+ */
 public final class ModelTest {
-    private static final int RUNS = 1200;
-    private static final int STEPS = 160;
+    private static final int RUNS = 5000;
+    private static final int TEXTS = 20000;
+    private static final int MOST_CALLS = 512;
+    private static final int LOOK_AT_ALL = 90;
 
     private final Check check = new Check();
     private final Random random = new Random(20261118L);
     private BoardCords x;
     private Model model;
     private String run;
+    private int used;
 
     public static void main(String[] args) {
         ModelTest test = new ModelTest();
         for (int i = 0; i < RUNS; i++) {
             test.goThrough(i);
         }
-        test.readTexts();
+        for (int i = 0; i < TEXTS; i++) {
+            test.readSpoilt(i);
+        }
         test.check.end();
+    }
+
+    private void begin(String name) {
+        run = name;
+        x = new BoardCords();
+        model = new Model();
+        used = 0;
+    }
+
+    private void due(String what, long got, long want) {
+        used++;
+        // the run is long to write, and is told only where something is wrong
+        check.due(got == want ? what : run + what, got, want);
+    }
+
+    /** Whether so many calls may come, and all be looked at behind them. */
+    private boolean hasRoomFor(int calls) {
+        return used + calls + LOOK_AT_ALL <= MOST_CALLS;
     }
 
     private int pick(int least, int most) {
@@ -29,49 +55,42 @@ public final class ModelTest {
     }
 
     private void goThrough(int number) {
-        run = "run " + number + ": ";
-        x = new BoardCords();
-        model = new Model();
+        begin("run " + number + ": ");
         read(boardText());
-        for (int step = 0; step < STEPS; step++) {
+        while (hasRoomFor(5)) {
             doSomething();
             askSomething();
-            if (step % 8 == 0) {
-                lookAtAll();
-            }
-            if (chance(1)) {
-                read(chance(50) ? boardText() : spoilt(boardText()));
+            askSomething();
+            askSomething();
+            lookAtSomething();
+            String text = chance(50) ? boardText() : spoilt(boardText());
+            if (chance(1) && hasRoomFor(text.length() + 2)) {
+                read(text);
             }
         }
         lookAtAll();
     }
 
-    /** Texts alone: most of them with a fault somewhere. */
-    private void readTexts() {
-        for (int i = 0; i < 20000; i++) {
-            run = "text " + i + ": ";
-            if (i % 50 == 0) {
-                x = new BoardCords();
-                model = new Model();
-            }
-            String text = boardText();
-            for (int k = pick(0, 2); k > 0; k--) {
-                text = spoilt(text);
-            }
-            read(text);
-            lookAtAll();
-            check.due(run + "clear", x.clear(), model.clear());
+    /** A text alone: most of them with a fault somewhere. */
+    private void readSpoilt(int number) {
+        begin("text " + number + ": ");
+        String text = boardText();
+        for (int k = pick(0, 2); k > 0; k--) {
+            text = spoilt(text);
         }
+        read(text);
+        lookAtAll();
+        due("clear", x.clear(), model.clear());
     }
 
     private void read(String text) {
         run += "[" + text + "] ";
         for (int i = 0; i < text.length(); i++) {
-            check.due(run + "type", x.type(text.charAt(i)), model.type(text.charAt(i)));
+            due("type", x.type(text.charAt(i)), model.type(text.charAt(i)));
         }
-        check.due(run + "board()", x.board(), model.board());
+        due("board()", x.board(), model.board());
         if (chance(50)) {
-            check.due(run + "clear()", x.clear(), model.clear());
+            due("clear()", x.clear(), model.clear());
         }
     }
 
@@ -159,67 +178,113 @@ public final class ModelTest {
         int image = about(1);
         int way = pick(0, 99);
         if (way < 30) {
-            check.due(run + "minute()", x.minute(), model.minute());
+            due("minute()", x.minute(), model.minute());
         } else if (way < 65) {
-            check.due(run + "plugs " + c, x.plugs(c), model.plugs(c));
+            due("plugs " + c, x.plugs(c), model.plugs(c));
         } else if (way < 75) {
-            check.due(run + "pulls " + c, x.pulls(c), model.pulls(c));
+            due("pulls " + c, x.pulls(c), model.pulls(c));
         } else if (way < 82) {
-            check.due(run + "swaps " + a + " " + b, x.swaps(a, b), model.swaps(a, b));
+            due("swaps " + a + " " + b, x.swaps(a, b), model.swaps(a, b));
         } else if (way < 92) {
-            check.due(run + "undo()", x.undo(), model.undo());
-        } else if (way < 96) {
-            check.due(run + "keep " + image, x.keep(image), model.keep(image));
-        } else if (way < 99) {
-            check.due(run + "back " + image, x.back(image), model.back(image));
+            due("undo()", x.undo(), model.undo());
+        } else if (way < 95) {
+            due("keep " + image, x.keep(image), model.keep(image));
+        } else if (way < 97) {
+            due("back " + image, x.back(image), model.back(image));
         } else {
-            for (int i = pick(0, 100); i > 0; i--) {
-                check.due(run + "minute()", x.minute(), model.minute());
+            for (int i = pick(0, 100); i > 0 && hasRoomFor(5); i--) {
+                due("minute()", x.minute(), model.minute());
             }
         }
     }
 
     private void askSomething() {
-        int c = aCall();
-        int l = aLine();
+        switch (pick(0, 5)) {
+            case 0 -> askOfRules();
+            case 1 -> askOfRows();
+            case 2, 3 -> askOfHoles();
+            default -> askOfCalls();
+        }
+    }
+
+    private void askOfRules() {
         int rule = about(2);
         int what = about(2);
         int n = about(60);
+        if (chance(60)) {
+            due("byRule " + rule + " " + n + " " + what,
+                    x.byRule(rule, n, what), model.byRule(rule, n, what));
+        } else {
+            due("enough " + rule, x.enough(rule), model.enough(rule));
+        }
+    }
+
+    private void askOfRows() {
+        int l = aLine();
+        // the model is slow where many wait
+        boolean slow = Integer.bitCount(model.now(1)) > 5;
+        int k = slow && chance(95) ? -2 : chance(50) ? -1 : about(7);
+        if (chance(60)) {
+            due("bestRow " + k, x.bestRow(k), model.bestRow(k));
+        } else {
+            int line = chance(30) ? -1 : l;
+            due("bestHoles " + line, x.bestHoles(line), model.bestHoles(line));
+        }
+    }
+
+    private void askOfHoles() {
+        int l = aLine();
         int p = about(10);
         int m = chance(60) ? pick(0, 8) : about(40);
+        int what = about(1);
+        switch (pick(0, 4)) {
+            case 0 -> due("longCords()", x.longCords(), model.longCords());
+            case 1 -> due("change()", x.change(), model.change());
+            case 2 -> due("atOnce " + what, x.atOnce(what), model.atOnce(what));
+            default -> due("odds " + l + " " + p + " " + m + " " + what,
+                    x.odds(l, p, m, what), model.odds(l, p, m, what));
+        }
+    }
+
+    private void askOfCalls() {
+        int c = aCall();
         int kind = about(5);
-        // the model is slow where many wait
-        int k = model.now(1) == 127 && chance(90) ? -2 : about(7);
-        check.due(run + "byRule " + rule + " " + n + " " + what,
-                x.byRule(rule, n, what), model.byRule(rule, n, what));
-        check.due(run + "enough " + rule, x.enough(rule), model.enough(rule));
-        if (chance(20)) {
-            check.due(run + "bestRow " + k, x.bestRow(k), model.bestRow(k));
-            check.due(run + "bestHoles " + l, x.bestHoles(l), model.bestHoles(l));
-            check.due(run + "bestHoles -1", x.bestHoles(-1), model.bestHoles(-1));
+        switch (pick(0, 2)) {
+            case 0 -> due("cutFor " + c, x.cutFor(c), model.cutFor(c));
+            case 1 -> due("under " + c, x.under(c), model.under(c));
+            default -> due("rate " + kind + " " + c, x.rate(kind, c), model.rate(kind, c));
         }
-        if (chance(10) && model.now(1) != 127) {
-            check.due(run + "bestRow -1", x.bestRow(-1), model.bestRow(-1));
+    }
+
+    private void lookAtSomething() {
+        int c = aCall();
+        int l = aLine();
+        int what = about(7);
+        switch (pick(0, 4)) {
+            case 0 -> due("count " + what, x.count(what), model.count(what));
+            case 1 -> due("line " + l + " " + what, x.line(l, what), model.line(l, what));
+            case 2 -> due("call " + c + " " + what, x.call(c, what), model.call(c, what));
+            case 3 -> due("trace()", x.trace(), model.trace());
+            default -> due("now " + what, x.now(what), model.now(what));
         }
-        check.due(run + "cutFor " + c, x.cutFor(c), model.cutFor(c));
-        check.due(run + "longCords()", x.longCords(), model.longCords());
-        check.due(run + "change()", x.change(), model.change());
-        check.due(run + "atOnce " + what, x.atOnce(what), model.atOnce(what));
-        check.due(run + "under " + c, x.under(c), model.under(c));
-        check.due(run + "odds " + l + " " + p + " " + m + " " + what,
-                x.odds(l, p, m, what), model.odds(l, p, m, what));
-        check.due(run + "rate " + kind + " " + c, x.rate(kind, c), model.rate(kind, c));
     }
 
     private void lookAtAll() {
-        for (int what = -1; what <= 8; what++) {
-            check.due(run + "now " + what, x.now(what), model.now(what));
-            check.due(run + "count " + what, x.count(what), model.count(what));
-            for (int i = -1; i <= 7; i++) {
-                check.due(run + "line " + i + " " + what, x.line(i, what), model.line(i, what));
-                check.due(run + "call " + i + " " + what, x.call(i, what), model.call(i, what));
+        for (int what = 0; what <= 6; what++) {
+            due("now " + what, x.now(what), model.now(what));
+        }
+        for (int what = 0; what <= 4; what++) {
+            due("count " + what, x.count(what), model.count(what));
+        }
+        for (int l = 0; l <= 6; l++) {
+            due("hole of " + l, x.line(l, 0), model.line(l, 0));
+            due("engaged " + l, x.line(l, 1), model.line(l, 1));
+        }
+        for (int c = 0; c <= 6; c++) {
+            for (int what = 0; what <= 7; what++) {
+                due("call " + c + " " + what, x.call(c, what), model.call(c, what));
             }
         }
-        check.due(run + "trace()", x.trace(), model.trace());
+        due("trace()", x.trace(), model.trace());
     }
 }

@@ -141,6 +141,7 @@ public final class TextEdgeTest {
         String text = most + holes + " ".repeat(200 - most.length() - holes.length());
         check.due("letters of the longest", text.length(), 200);
         reads(text, 29);
+        reads("h0 0;".repeat(40), 40);
         // 201 letters: the last ';' does not come to the text
         fails(" ".repeat(198) + "l6;", 200);
     }
